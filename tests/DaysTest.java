@@ -93,6 +93,17 @@ final class DaysTest {
     Due.due("18: who LIVES more but HAS less", x.count(3), 2);
     x.days(1);
     Due.due("18: MEETINGS again", x.count(3), 4);
+    SoldDays y = new SoldDays();
+    for (int person = 0; person < 6; person++) {
+      y.person(0);
+      for (int day = 0; day < 28; day++) {
+        y.give(person, day, 2);
+      }
+    }
+    for (int i = 0; i < 28; i++) {
+      Due.due("18: six are UP", y.days(60), 360);
+    }
+    Due.due("18: MEETINGS held", y.count(3), 9999);
   }
 
   private static void settledPromises() {

@@ -7,6 +7,7 @@ final class ThoughtsTest {
     keepers();
     buys();
     bailiffs();
+    bailiffsOfKinds();
     bailiffsErrors();
     odds();
     fits();
@@ -184,6 +185,35 @@ final class ThoughtsTest {
     for (int i = 0; i < n; i++) {
       Due.due("26: DAY " + i + " of " + n, x.bailiffs(person, n, i), days[i]);
     }
+  }
+
+  /** Who is UP all the same, when a DAY is taken, breaks nothing. */
+  private static void bailiffsOfKinds() {
+    SoldDays x = new SoldDays();
+    x.person(53);
+    x.person(0);
+    x.promise(0, 1, 12);
+    x.promise(1, 0, 4);
+    for (int day = 0; day < 28; day++) {
+      x.give(0, day, day == 4 || day == 12 ? 1 : 0);
+    }
+    taken(x, 0, 1, 15, 0, 12);
+    taken(x, 0, 2, 25, 1, 4, 12);
+    x.become(0, 50);
+    taken(x, 0, 1, 10, 1, 4);
+    x.become(0, 60);
+    taken(x, 0, 2, 25, 0, 4, 12);
+    x.become(0, 11);
+    x.give(0, 12, 2);
+    x.give(0, 4, 0);
+    taken(x, 0, 1, 15, 1, 12);
+    x.give(0, 12, 1);
+    taken(x, 0, 1, 15, 2, 12);
+    x.become(0, 15);
+    taken(x, 0, 1, 15, 2, 12);
+    x.become(0, 30);
+    x.give(0, 12, 2);
+    taken(x, 0, 1, 15, 1, 12);
   }
 
   private static void bailiffsErrors() {

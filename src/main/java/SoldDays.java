@@ -1378,8 +1378,7 @@ public final class SoldDays {
         case 20:
           return sound(above, YAWNS, x, next) - 4;
         case 21:
-          int rest = sound(above, PARTS, x, next);
-          return parted ? 0 : rest + own(TRADES, 1, next);
+          return partAndTrade(above, x, next);
         case 30:
           return 0 - sound(above, TRADES, x, next);
         case 40:
@@ -1397,6 +1396,12 @@ public final class SoldDays {
         default:
           return 0;
       }
+    }
+
+    /** One who parted says nothing more: what stands behind it never begins. */
+    private int partAndTrade(int above, int x, int depth) {
+      int share = sound(above, PARTS, x, depth);
+      return parted ? 0 : share + own(TRADES, 1, depth);
     }
 
     private int part(int x, int by) {
