@@ -28,16 +28,9 @@ final class BoundsOfDaysTest {
     drawsOfAnIntThatWraps();
     saleAheadOfTheDay();
     salesThatCannotBe();
+    salesOfFortyDays();
     anySeed();
     Due.end();
-  }
-
-  private static SoldDays people(int... kms) {
-    SoldDays x = new SoldDays();
-    for (int km : kms) {
-      x.person(km);
-    }
-    return x;
   }
 
   private static int drawn(int z, int draws) {
@@ -49,7 +42,7 @@ final class BoundsOfDaysTest {
 
   /** "n (1 .. 60) days" */
   private static void oneToSixtyDays() {
-    SoldDays x = people(0);
+    SoldDays x = Made.people(0);
     Due.due("18: days(0)", x.days(0), Due.BEYOND);
     Due.due("18: days(1)", x.days(1), 1);
     Due.due("40: TODAY", x.count(2), 1);
@@ -62,7 +55,7 @@ final class BoundsOfDaysTest {
 
   /** "n (1 .. 40) days BY DRAWS" */
   private static void oneToFortyDaysByDraws() {
-    SoldDays x = people(0);
+    SoldDays x = Made.people(0);
     Due.due("19: loose(0)", x.loose(0), Due.BEYOND);
     Due.due("19: loose(1)", x.loose(1), 0);
     Due.due("40: TODAY", x.count(2), 1);
@@ -74,14 +67,8 @@ final class BoundsOfDaysTest {
   }
 
   private static SoldDays on(int today) {
-    SoldDays x = people(60);
-    for (int i = 0; i < today / 60; i++) {
-      x.days(60);
-    }
-    if (today % 60 > 0) {
-      x.days(today % 60);
-    }
-    Due.due("40: TODAY", x.count(2), today);
+    SoldDays x = Made.people(60);
+    Made.on(x, today);
     return x;
   }
 
@@ -126,7 +113,7 @@ final class BoundsOfDaysTest {
     Due.due("40: ALONE", x.count(6), 60);
     Due.due("19: of nobody", x.loose(40), 0);
     Due.due("40: ALONE", x.count(6), 100);
-    SoldDays y = people(0, 10);
+    SoldDays y = Made.people(0, 10);
     y.give(0, 0, 0);
     Due.due("18: neither is UP", y.days(1), 0);
     Due.due("40: ALONE", y.count(6), 1);
@@ -138,14 +125,14 @@ final class BoundsOfDaysTest {
   private static void ageIsHeldAt9999() {
     int[][] rows = {{9990, 9, 9999}, {9991, 9, 9999}, {9989, 9, 9998}, {9998, 1, 9999}, {9999, 1, 9999}, {9999, 9, 9999}, {0, 9, 9}};
     for (int[] row : rows) {
-      SoldDays x = people(0);
+      SoldDays x = Made.people(0);
       x.change(0, 0, row[0]);
       x.give(0, 0, row[1]);
       Due.due("21: then", x.then(1, 0, 0), row[2]);
       Due.due("18: days(1)", x.days(1), 1);
       Due.due("3: AGE of " + row[0] + " and " + row[1], x.personIs(0, 2), row[2]);
     }
-    SoldDays x = people(59);
+    SoldDays x = Made.people(59);
     x.days(5);
     x.give(0, 5, 9);
     x.change(0, 0, 9981);
@@ -157,7 +144,7 @@ final class BoundsOfDaysTest {
   private static void moneyIs0AtLeast() {
     int[][] rows = {{0, 0}, {1, 0}, {49, 0}, {50, 0}, {51, 1}, {9999, 9949}};
     for (int[] row : rows) {
-      SoldDays x = people(0);
+      SoldDays x = Made.people(0);
       Due.text(x, 1, "50");
       x.change(0, 1, row[0]);
       Due.due("21: then", x.then(1, 0, 1), row[1]);
@@ -171,7 +158,7 @@ final class BoundsOfDaysTest {
     String[] texts = {"98", "99", "100", "9999", "0", "0-1", "0-9999"};
     int[] dues = {98, 99, 99, 99, 0, 0, 0};
     for (int i = 0; i < texts.length; i++) {
-      SoldDays x = people(0);
+      SoldDays x = Made.people(0);
       Due.text(x, 1, texts[i]);
       x.days(1);
       Due.due("3: MONEY less " + texts[i], x.personIs(0, 3), 100 - dues[i]);
@@ -183,7 +170,7 @@ final class BoundsOfDaysTest {
     String[] texts = {"a", "t", "m"};
     int[] dues = {7, 3, 95};
     for (int i = 0; i < 3; i++) {
-      SoldDays x = people(0);
+      SoldDays x = Made.people(0);
       x.days(3);
       x.change(0, 0, 7);
       x.change(0, 1, 95);
@@ -193,7 +180,7 @@ final class BoundsOfDaysTest {
       Due.due("3: MONEY less " + texts[i], x.personIs(0, 3), 95 - dues[i]);
       Due.due("3: AGE", x.personIs(0, 2), 16);
     }
-    SoldDays x = people(0, 0);
+    SoldDays x = Made.people(0, 0);
     x.give(1, 0, 0);
     Due.text(x, 1, "1");
     x.days(1);
@@ -204,20 +191,20 @@ final class BoundsOfDaysTest {
   /** "who HAS the DAY more than once MEETS himself (1 more of MEETINGS)" */
   private static void whoHasItMoreThanOnceMeets() {
     for (int often = 0; often <= 9; often++) {
-      SoldDays x = people(60);
+      SoldDays x = Made.people(60);
       x.give(0, 0, often);
       x.days(1);
       Due.due("40: MEETINGS, had " + often, x.count(3), often > 1 ? 1 : 0);
     }
-    SoldDays x = people(59);
+    SoldDays x = Made.people(59);
     x.days(5);
     x.days(1);
     Due.due("40: who LIVES 10 of a DAY had once", x.count(3), 0);
-    SoldDays y = people(30);
+    SoldDays y = Made.people(30);
     y.give(0, 0, 2);
     y.days(1);
     Due.due("40: who LIVES 1 of a DAY had twice", y.count(3), 1);
-    SoldDays z = people(0, 20, 60);
+    SoldDays z = Made.people(0, 20, 60);
     for (int person = 0; person < 3; person++) {
       z.give(person, 0, 2);
     }
@@ -227,7 +214,7 @@ final class BoundsOfDaysTest {
 
   /** "all who are UP": a student who isn't UP MEETS nobody, as often as he HAS the DAY. */
   private static void whoIsNotUpMeetsNobody() {
-    SoldDays x = people(10, 47);
+    SoldDays x = Made.people(10, 47);
     x.give(0, 0, 9);
     x.give(1, 0, 9);
     Due.due("18: neither is UP", x.days(1), 0);
@@ -236,16 +223,11 @@ final class BoundsOfDaysTest {
 
   /** "(MEETINGS, KEPT, BROKEN, ALONE: 0 at first, held at 9999.)" */
   private static void meetingsAreHeldAt9999() {
-    SoldDays x = people(60, 60, 60, 60, 60, 60);
+    SoldDays x = Made.people(60, 60, 60, 60, 60, 60);
     for (int person = 0; person < 6; person++) {
-      for (int day = 0; day < 28; day++) {
-        x.give(person, day, 2);
-      }
+      Made.has(x, person, 0, 27, 2);
     }
-    for (int i = 0; i < 27; i++) {
-      x.days(60);
-    }
-    x.days(46);
+    Made.on(x, 1666);
     Due.due("40: MEETINGS", x.count(3), 9996);
     for (int person = 0; person < 4; person++) {
       x.give(person, 1666 % 28, 1);
@@ -256,21 +238,16 @@ final class BoundsOfDaysTest {
     Due.due("40: held", x.count(3), 9999);
     x.days(60);
     Due.due("40: held still", x.count(3), 9999);
-    for (int i = 0; i < 137; i++) {
-      x.days(60);
-    }
+    Made.on(x, 9999);
     Due.due("40: held on", x.count(3), 9999);
     SoldDays y = new SoldDays();
-    for (int i = 0; i < 166; i++) {
-      y.days(60);
-    }
-    y.days(39);
+    Made.on(y, 9999);
     Due.due("40: ALONE at most", y.count(6), 9999);
   }
 
   /** "Then each PROMISE for that DAY is one more of those KEPT, or of those BROKEN." */
   private static void promisesOfTheDayAlone() {
-    SoldDays x = people(60, 60, 0);
+    SoldDays x = Made.people(60, 60, 0);
     x.promise(0, 1, 0);
     x.promise(0, 1, 27);
     x.promise(1, 2, 27);
@@ -295,7 +272,7 @@ final class BoundsOfDaysTest {
 
   /** Eight for one DAY; they are those of the next four weeks, too. */
   private static void eightPromisesADay() {
-    SoldDays x = people(60, 0);
+    SoldDays x = Made.people(60, 0);
     x.give(1, 5, 0);
     for (int i = 0; i < 8; i++) {
       x.promise(i % 2, 1 - i % 2, i < 3 ? 5 : 4);
@@ -309,7 +286,7 @@ final class BoundsOfDaysTest {
 
   /** "If nobody was UP, the cat was ALONE once more." */
   private static void aloneIfNobodyIsUp() {
-    SoldDays x = people(0, 11);
+    SoldDays x = Made.people(0, 11);
     for (int day = 0; day < 28; day++) {
       x.give(0, day, day % 7 == 1 ? 0 : 1);
     }
@@ -322,7 +299,7 @@ final class BoundsOfDaysTest {
 
   /** "the DAY that goes is its rest by 28" */
   private static void calendarBeginsAgain() {
-    SoldDays x = people(0);
+    SoldDays x = Made.people(0);
     x.give(0, 0, 5);
     x.give(0, 27, 0);
     x.days(27);
@@ -349,7 +326,7 @@ final class BoundsOfDaysTest {
   /** ".., three draws": in any case, if no SALE comes of them, too. */
   private static void threeDrawsOfTwo() {
     for (int seed = 0; seed < 20; seed++) {
-      SoldDays x = people(0, 0);
+      SoldDays x = Made.people(0, 0);
       x.change(0, 1, 0);
       x.change(1, 1, 0);
       x.seed(seed);
@@ -369,7 +346,7 @@ final class BoundsOfDaysTest {
   }
 
   private static void oneDraw(int seed, int many) {
-    SoldDays x = people(new int[many]);
+    SoldDays x = Made.people(new int[many]);
     x.seed(seed);
     int from = (drawn(seed, 1) >>> 8) % many;
     int to = (drawn(seed, 2) >>> 8) % many;
@@ -391,7 +368,7 @@ final class BoundsOfDaysTest {
       int to = (drawn(seed, 2) >>> 8) % 2;
       int day = (drawn(seed, 3) >>> 8) % 28;
       if (from != to && day == 0) {
-        SoldDays x = people(0, 0);
+        SoldDays x = Made.people(0, 0);
         x.seed(seed);
         Due.due("19: a SALE of TODAY's DAY", x.loose(1), 1);
         Due.due("3: AGE of who sold it", x.personIs(from, 2), 0);
@@ -422,13 +399,42 @@ final class BoundsOfDaysTest {
   }
 
   private static void drawnSale(int seed, int want, Twins.Act ahead) {
-    SoldDays x = people(0, 0);
+    SoldDays x = Made.people(0, 0);
     ahead.on(x);
     x.seed(seed);
     Due.due("19: how many SALES", x.loose(1), want);
     Due.due("40: z", x.count(11), drawn(seed, 3));
     for (int k = 1; k <= 6; k++) {
       Due.due("41: told(" + k + ")", x.told(k), 0);
+    }
+  }
+
+  /** "how many SALES there were": of all days together, of one day and of forty. */
+  private static void salesOfFortyDays() {
+    for (int days = 1; days <= 40; days++) {
+      SoldDays x = Made.people(0, 0, 0);
+      for (int person = 0; person < 3; person++) {
+        x.change(person, 1, 5000);
+      }
+      int[] has = new int[3 * 28];
+      java.util.Arrays.fill(has, 1);
+      int z = 1;
+      int sales = 0;
+      for (int i = 0; i < days; i++) {
+        int from = (drawn(z, 1) >>> 8) % 3;
+        int to = (drawn(z, 2) >>> 8) % 3;
+        int day = (drawn(z, 3) >>> 8) % 28;
+        z = drawn(z, 3);
+        if (from != to && has[from * 28 + day] > 0) {
+          has[from * 28 + day]--;
+          has[to * 28 + day]++;
+          sales++;
+        }
+      }
+      Due.due("19: SALES of " + days + " days", x.loose(days), sales);
+      for (int i = 0; i < has.length; i++) {
+        Due.due("7: HAS behind " + days + " days", x.has(i / 28, i % 28), has[i]);
+      }
     }
   }
 

@@ -176,18 +176,12 @@ final class BoundsOfImagesTest {
   private static void restoredFromTheLastDay() {
     SoldDays x = new SoldDays();
     x.image();
-    for (int i = 0; i < 166; i++) {
-      x.days(60);
-    }
-    x.days(39);
+    Made.on(x, 9999);
     Due.due("18: STATE", x.days(1), Due.STATE);
     Due.due("37: TODAY 0", x.restore(), 0);
     Due.due("40: ALONE", x.count(6), 0);
     Due.due("18: days go again", x.days(60), 0);
-    for (int i = 0; i < 165; i++) {
-      x.days(60);
-    }
-    x.days(39);
+    Made.on(x, 9999);
     x.image();
     x.change(x.person(0), 0, 5);
     Due.due("37: TODAY 9999", x.restore(), 9999);
@@ -298,7 +292,7 @@ final class BoundsOfImagesTest {
   }
 
   private static void countsOfAllThatIsFull() {
-    SoldDays x = Twins.full();
+    SoldDays x = Made.full();
     x.voice(4, 2, 5);
     for (int person = 0; person < 6; person++) {
       x.become(person, 0);
@@ -327,7 +321,7 @@ final class BoundsOfImagesTest {
     Due.due("BEYOND", new SoldDays().person(70), -1000000001L);
     Due.due("NONE", new SoldDays().restore(), -1000000002L);
     Due.due("STATE", new SoldDays().sheet(0, 8, -1), -1000000003L);
-    SoldDays x = Twins.full();
+    SoldDays x = Made.full();
     Due.due("FULL", x.person(0), -1000000004L);
     Due.due("KIND", x.as(0, 1), -1000000005L);
     Due.due("PARTED", x.voice(0, 3, 1), -1000000006L);
@@ -353,7 +347,7 @@ final class BoundsOfImagesTest {
 
   /** One more of each ERROR, of no other; by any act. */
   private static void toldOfEachError() {
-    SoldDays x = Twins.full();
+    SoldDays x = Made.full();
     Twins.Act[] acts = {y -> y.has(6, 0), y -> y.body(30), y -> y.sheet(0, 8, -1), y -> y.tell(0), y -> y.as(0, 6), y -> y.voice(0, 3, 0)};
     for (int round = 1; round <= 3; round++) {
       for (int k = 1; k <= 6; k++) {

@@ -90,9 +90,7 @@ final class BoundsOfPeopleTest {
     x.person(0);
     x.change(1, 0, 5);
     x.change(1, 1, 5);
-    for (int day = 0; day < 28; day++) {
-      x.give(1, day, 5);
-    }
+    Made.has(x, 1, 0, 27, 5);
     x.restore();
     x.days(60);
     Due.due("2: number 1 again", x.person(11), 1);
@@ -188,11 +186,7 @@ final class BoundsOfPeopleTest {
     Due.due("3: TODAY 28", x.personIs(0, 4), 2);
     x.days(27);
     Due.due("3: TODAY 55", x.personIs(0, 4), 4);
-    for (int i = 0; i < 165; i++) {
-      x.days(60);
-    }
-    x.days(43);
-    Due.due("40: TODAY 9998", x.count(2), 9998);
+    Made.on(x, 9998);
     Due.due("3: TODAY 9998, DAY 2", x.personIs(0, 4), 1);
     x.days(1);
     Due.due("3: TODAY 9999, DAY 3", x.personIs(0, 4), 3);

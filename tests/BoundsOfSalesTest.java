@@ -28,10 +28,7 @@ final class BoundsOfSalesTest {
   }
 
   private static SoldDays two() {
-    SoldDays x = new SoldDays();
-    x.person(0);
-    x.person(0);
-    return x;
+    return Made.people(0, 0);
   }
 
   /** What a SALE of a DAY from 0 to 1 makes: HAS and MONEY of both. */

@@ -32,11 +32,7 @@ final class BoundsOfSheetsTest {
   }
 
   private static SoldDays people(int many) {
-    SoldDays x = new SoldDays();
-    for (int i = 0; i < many; i++) {
-      x.person(0);
-    }
-    return x;
+    return Made.people(new int[many]);
   }
 
   private static void put(SoldDays x, int sheet, int from, int... numbers) {
@@ -385,10 +381,7 @@ final class BoundsOfSheetsTest {
   /** "(nothing changes; TODAY beyond 9999, too)" */
   private static void judgesBeyond9999() {
     SoldDays x = people(2);
-    for (int i = 0; i < 166; i++) {
-      x.days(60);
-    }
-    x.days(39);
+    Made.on(x, 9999);
     x.give(0, 3, 0);
     x.give(0, 26, 0);
     x.sheet(0, 8, 24);

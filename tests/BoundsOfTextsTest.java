@@ -28,6 +28,7 @@ final class BoundsOfTextsTest {
     cutTowardZero();
     byZero();
     whatIsNotZeroIsTrue();
+    oneOrZero();
     leftToRight();
     heldWithin();
     withoutAText();
@@ -398,6 +399,18 @@ final class BoundsOfTextsTest {
     gives("d<w", -1, 0, 0, 1);
     gives("d>w", 0, -1, 0, 1);
     gives("(5<6)*7", 0, 0, 0, 7);
+  }
+
+  /** "| & < = > ! are 1 or 0": nothing else, as what is added to it shows. */
+  private static void oneOrZero() {
+    String[] are1 = {"d|0", "0|d", "d|d", "d&d", "d>0", "0<d", "d=d", "!0", "!!d"};
+    String[] are0 = {"0|0", "d&0", "0&d", "0&0", "d<0", "0>d", "d=0", "d<d", "d>d", "!d", "!!0"};
+    for (String text : are1) {
+      gives("5+(" + text + ")", 7, 0, 0, 6);
+    }
+    for (String text : are0) {
+      gives("5+(" + text + ")", 7, 0, 0, 5);
+    }
   }
 
   /** "S: P { + P, - P }. P: Q { * Q, / Q, % Q }": from left to right, and * / % ahead of + -. */

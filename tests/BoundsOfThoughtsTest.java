@@ -30,6 +30,7 @@ final class BoundsOfThoughtsTest {
     bailiffsFewestThenLeastThenFirst();
     bailiffsPricesAsTheyAreNow();
     bailiffsOfAllPromises();
+    bailiffsOfWhoIsUpWithoutTheDay();
     oddsFrom0To28();
     oddsOfKinds();
     fitsOfNoNumbers();
@@ -41,32 +42,9 @@ final class BoundsOfThoughtsTest {
     Due.end();
   }
 
-  private static SoldDays people(int... kms) {
-    SoldDays x = new SoldDays();
-    for (int km : kms) {
-      x.person(km);
-    }
-    return x;
-  }
-
-  private static void has(SoldDays x, int person, int first, int last, int often) {
-    for (int day = first; day <= last; day++) {
-      x.give(person, day, often);
-    }
-  }
-
-  /** TODAY at its end: 9999, of DAY 3. */
-  private static void toTheLastDay(SoldDays x) {
-    for (int i = 0; i < 166; i++) {
-      x.days(60);
-    }
-    x.days(39);
-    Due.due("40: TODAY", x.count(2), 9999);
-  }
-
   /** "THEN, for n (0 .. 100)" */
   private static void thenBehind0To100Days() {
-    SoldDays x = people(0);
+    SoldDays x = Made.people(0);
     Due.text(x, 1, "1");
     x.change(0, 0, 5);
     Due.due("21: then(-1)", x.then(-1, 0, 0), Due.BEYOND);
@@ -88,7 +66,7 @@ final class BoundsOfThoughtsTest {
 
   /** "(held at 9999)", "(0 at least)" */
   private static void thenOfSumsThatAreHeld() {
-    SoldDays x = people(0);
+    SoldDays x = Made.people(0);
     Due.text(x, 1, "50");
     x.change(0, 0, 9997);
     int[] ages = {9997, 9998, 9999, 9999};
@@ -103,8 +81,8 @@ final class BoundsOfThoughtsTest {
 
   /** "TODAY beyond 9999, too" */
   private static void thenBeyond9999() {
-    SoldDays x = people(0);
-    toTheLastDay(x);
+    SoldDays x = Made.people(0);
+    Made.on(x, 9999);
     x.change(0, 0, 0);
     x.give(0, 3, 4);
     Due.due("21: AGE behind 1", x.then(1, 0, 0), 4);
@@ -118,7 +96,7 @@ final class BoundsOfThoughtsTest {
 
   /** "(All this is only thought ..)" */
   private static void onlyThought() {
-    Twins.Maker usual = Twins::usual;
+    Twins.Maker usual = Made::usual;
     Twins.unchanged("21: then", usual, x -> x.then(100, 1, 1));
     Twins.unchanged("22: alone", usual, x -> x.alone(60));
     Twins.unchanged("23: meet", usual, x -> x.meet(0, 1));
@@ -132,7 +110,7 @@ final class BoundsOfThoughtsTest {
 
   /** "ALONE, of n (1 .. 60)." */
   private static void aloneOf1To60Days() {
-    SoldDays x = people(0);
+    SoldDays x = Made.people(0);
     x.give(0, 0, 0);
     x.give(0, 3, 0);
     Due.due("22: alone(0)", x.alone(0), Due.BEYOND);
@@ -155,7 +133,7 @@ final class BoundsOfThoughtsTest {
     Due.due("22: of nobody", x.alone(60), 60);
     x.person(0);
     Due.due("22: of one", x.alone(60), 0);
-    has(x, 0, 0, 27, 0);
+    Made.has(x, 0, 0, 27, 0);
     Due.due("22: of one who HAS none", x.alone(60), 60);
     x.person(60);
     Due.due("22: of a BAILIFF", x.alone(60), 0);
@@ -164,9 +142,9 @@ final class BoundsOfThoughtsTest {
   }
 
   private static void aloneBeyond9999() {
-    SoldDays x = people(0);
+    SoldDays x = Made.people(0);
     x.give(0, 4, 0);
-    toTheLastDay(x);
+    Made.on(x, 9999);
     int was = x.count(6);
     Due.due("22: TODAY", x.alone(1), 0);
     Due.due("22: 10000, of DAY 4", x.alone(2), 1);
@@ -177,20 +155,20 @@ final class BoundsOfThoughtsTest {
   /** "behind how many days (0 .. 27; 0: TODAY's) both are UP first" */
   private static void meetBehind0To27Days() {
     for (int today = 0; today < 30; today++) {
-      SoldDays x = people(0, 60);
+      SoldDays x = Made.people(0, 60);
       if (today > 0) {
         x.days(today);
       }
-      has(x, 0, 0, 27, 0);
+      Made.has(x, 0, 0, 27, 0);
       x.give(0, 13, 1);
       int behind = (13 - today + 56) % 28;
       Due.due("23: on " + today, x.meet(0, 1), behind);
       Due.due("23: on " + today + ", the other way", x.meet(1, 0), behind);
     }
-    SoldDays x = people(0, 0);
+    SoldDays x = Made.people(0, 0);
     x.days(14);
-    has(x, 0, 0, 27, 0);
-    has(x, 1, 0, 27, 0);
+    Made.has(x, 0, 0, 27, 0);
+    Made.has(x, 1, 0, 27, 0);
     x.give(0, 13, 9);
     x.give(1, 13, 1);
     Due.due("23: behind 27", x.meet(0, 1), 27);
@@ -202,9 +180,9 @@ final class BoundsOfThoughtsTest {
 
   /** "NONE: on no DAY." */
   private static void meetOnNoDay() {
-    SoldDays x = people(0, 0);
-    has(x, 0, 0, 13, 0);
-    has(x, 1, 14, 27, 0);
+    SoldDays x = Made.people(0, 0);
+    Made.has(x, 0, 0, 13, 0);
+    Made.has(x, 1, 14, 27, 0);
     Due.due("23: on no DAY", x.meet(0, 1), Due.NONE);
     Due.due("23: on no DAY", x.meet(1, 0), Due.NONE);
     x.give(1, 27, 1);
@@ -215,10 +193,10 @@ final class BoundsOfThoughtsTest {
   }
 
   private static void meetByKinds() {
-    SoldDays x = people(10, 41);
+    SoldDays x = Made.people(10, 41);
     Due.due("23: STUDENTS of 0 and 1", x.meet(0, 1), 2);
     x.become(1, 60);
-    has(x, 1, 0, 27, 0);
+    Made.has(x, 1, 0, 27, 0);
     Due.due("23: a BAILIFF HAS none", x.meet(0, 1), 1);
     x.become(1, 51);
     Due.due("23: one MERRY HAS none", x.meet(0, 1), 5);
@@ -260,8 +238,8 @@ final class BoundsOfThoughtsTest {
     SoldDays x = new SoldDays();
     for (int person = 0; person < 6; person++) {
       x.person(0);
-      has(x, person, 0, 27, 0);
-      has(x, person, person * 5, Math.min(27, person * 5 + 4), 1);
+      Made.has(x, person, 0, 27, 0);
+      Made.has(x, person, person * 5, Math.min(27, person * 5 + 4), 1);
     }
     Due.due("24: six", x.keepers(0), 6);
     Due.due("24: all of six", x.keepers(1), 63);
@@ -269,14 +247,14 @@ final class BoundsOfThoughtsTest {
     Due.due("24: not even all", x.keepers(0), Due.NONE);
     x.give(0, 27, 1);
     Due.due("24: all of six", x.keepers(1), 63);
-    has(x, 1, 25, 26, 1);
+    Made.has(x, 1, 25, 26, 1);
     Due.due("24: without the last", x.keepers(0), 5);
     Due.due("24: without the last", x.keepers(1), 31);
   }
 
   /** "of several sets the least (bits)" */
   private static void keepersTheLeastSet() {
-    SoldDays x = people(10, 11, 12, 13, 0, 60);
+    SoldDays x = Made.people(10, 11, 12, 13, 0, 60);
     Due.due("24: one of two", x.keepers(1), 16);
     x.become(4, 14);
     Due.due("24: the last alone", x.keepers(1), 32);
@@ -293,7 +271,7 @@ final class BoundsOfThoughtsTest {
   private static void buysWithJustEnough() {
     int[][] rows = {{0, 0}, {9, 0}, {10, 1}, {19, 1}, {20, 2}, {199, 19}, {200, 20}, {214, 20}, {215, 21}, {319, 27}, {320, 28}, {9999, 28}};
     for (int[] row : rows) {
-      SoldDays x = people(0, 0);
+      SoldDays x = Made.people(0, 0);
       x.change(1, 1, row[0]);
       Due.due("25: MONEY " + row[0], x.buys(0, 1), row[1]);
     }
@@ -301,7 +279,7 @@ final class BoundsOfThoughtsTest {
 
   /** "one of each DAY that that one HAS" */
   private static void buysWhatOneHas() {
-    SoldDays x = people(0, 0);
+    SoldDays x = Made.people(0, 0);
     x.change(1, 1, 9999);
     for (int day = 0; day < 28; day++) {
       Due.due("25: without " + day + " DAYS", x.buys(0, 1), 28 - day);
@@ -315,21 +293,21 @@ final class BoundsOfThoughtsTest {
 
   /** "and of which one HAS fewer than 9" */
   private static void buysOfFewerThanNine() {
-    SoldDays x = people(0, 0);
+    SoldDays x = Made.people(0, 0);
     x.change(1, 1, 9999);
-    has(x, 1, 0, 27, 9);
+    Made.has(x, 1, 0, 27, 9);
     Due.due("25: all 9 times", x.buys(0, 1), 0);
     x.give(1, 27, 8);
     Due.due("25: one 8 times", x.buys(0, 1), 1);
     x.give(1, 0, 0);
     Due.due("25: one 0 times", x.buys(0, 1), 2);
-    has(x, 0, 0, 27, 9);
+    Made.has(x, 0, 0, 27, 9);
     Due.due("25: what who sells HAS 9 times", x.buys(0, 1), 2);
   }
 
   /** "if always the cheapest that is left is bought (PRICES as they are now)" */
   private static void buysTheCheapestFirst() {
-    SoldDays x = people(0, 0);
+    SoldDays x = Made.people(0, 0);
     Due.text(x, 0, "30-d");
     int[] sums = {3, 7, 12, 18, 25};
     for (int i = 0; i < sums.length; i++) {
@@ -342,7 +320,7 @@ final class BoundsOfThoughtsTest {
     x.change(1, 1, 4);
     Due.due("25: the cheapest isn't there", x.buys(0, 1), 1);
     Due.text(x, 0, "h*10");
-    has(x, 0, 0, 27, 9);
+    Made.has(x, 0, 0, 27, 9);
     x.give(0, 20, 1);
     x.change(1, 1, 99);
     Due.due("25: 10, then 90", x.buys(0, 1), 1);
@@ -351,7 +329,7 @@ final class BoundsOfThoughtsTest {
   }
 
   private static void buysForNothing() {
-    SoldDays x = people(0, 0);
+    SoldDays x = Made.people(0, 0);
     Due.text(x, 0, "w*0");
     x.change(1, 1, 0);
     Due.due("25: all for nothing", x.buys(0, 1), 28);
@@ -368,7 +346,7 @@ final class BoundsOfThoughtsTest {
 
   /** The sentence names MONEY of who buys alone. */
   private static void buysWhateverTheSellerHas() {
-    SoldDays x = people(0, 0);
+    SoldDays x = Made.people(0, 0);
     x.change(0, 1, 9999);
     Due.due("25: of one who has 9999", x.buys(0, 1), 10);
     Due.due("10: it can't be sold", x.sell(0, 1, 0), Due.STATE);
@@ -386,7 +364,7 @@ final class BoundsOfThoughtsTest {
 
   /** "BAILIFFS, for n (1 .. 3): what -2 .., -1 .., 0 .. n - 1" */
   private static void bailiffsTake1To3() {
-    SoldDays x = people(0);
+    SoldDays x = Made.people(0);
     Due.due("26: n 0", x.bailiffs(0, 0, -1), Due.BEYOND);
     taken(x, 1, 10, 0, 0);
     taken(x, 2, 20, 0, 0, 1);
@@ -396,8 +374,8 @@ final class BoundsOfThoughtsTest {
 
   /** "NONE: one HAS not so many DAYS." */
   private static void bailiffsHaveNotSoManyDays() {
-    SoldDays x = people(0);
-    has(x, 0, 0, 27, 0);
+    SoldDays x = Made.people(0);
+    Made.has(x, 0, 0, 27, 0);
     for (int many = 0; many <= 3; many++) {
       for (int n = 1; n <= 3; n++) {
         Due.due("26: " + n + " of " + many, x.bailiffs(0, n, -1), n > many ? Due.NONE : 0);
@@ -405,15 +383,15 @@ final class BoundsOfThoughtsTest {
       x.give(0, 27 - many, 9);
     }
     x.become(0, 60);
-    has(x, 0, 0, 27, 0);
+    Made.has(x, 0, 0, 27, 0);
     Due.due("26: who is UP, but HAS none", x.bailiffs(0, 1, 0), Due.NONE);
   }
 
   /** "take n DAYS of somebody who HAS them, each once" */
   private static void bailiffsTakeEachOnce() {
-    SoldDays x = people(0, 0);
+    SoldDays x = Made.people(0, 0);
     x.promise(0, 1, 0);
-    has(x, 0, 0, 27, 0);
+    Made.has(x, 0, 0, 27, 0);
     x.give(0, 0, 2);
     x.give(0, 27, 9);
     taken(x, 1, 10, 0, 0);
@@ -426,8 +404,8 @@ final class BoundsOfThoughtsTest {
 
   /** "by which the fewest .. aren't KEPT then; of several .. the least PRICES ..; of these the first as a rising row" */
   private static void bailiffsFewestThenLeastThenFirst() {
-    SoldDays x = people(0, 0);
-    has(x, 0, 0, 27, 0);
+    SoldDays x = Made.people(0, 0);
+    Made.has(x, 0, 0, 27, 0);
     for (int day : new int[] {2, 4, 6, 8, 10}) {
       x.give(0, day, 1);
     }
@@ -443,16 +421,16 @@ final class BoundsOfThoughtsTest {
     taken(x, 2, 4, 1, 2, 8);
     taken(x, 3, 4, 3, 2, 4, 8);
     x.untell(0);
-    has(x, 0, 20, 27, 1);
+    Made.has(x, 0, 20, 27, 1);
     taken(x, 1, 10, 0, 8);
     taken(x, 3, 30, 0, 8, 21, 22);
   }
 
   /** "(as they are now)": of a DAY had 9 times, as it is had now. */
   private static void bailiffsPricesAsTheyAreNow() {
-    SoldDays x = people(0);
+    SoldDays x = Made.people(0);
     Due.text(x, 0, "h*100");
-    has(x, 0, 0, 27, 9);
+    Made.has(x, 0, 0, 27, 9);
     x.give(0, 27, 3);
     x.give(0, 26, 4);
     taken(x, 1, 300, 0, 27);
@@ -466,8 +444,8 @@ final class BoundsOfThoughtsTest {
 
   /** "the fewest of all PROMISES": those that aren't KEPT anyway, and of others, count, too. */
   private static void bailiffsOfAllPromises() {
-    SoldDays x = people(0, 0, 0);
-    has(x, 0, 3, 27, 0);
+    SoldDays x = Made.people(0, 0, 0);
+    Made.has(x, 0, 3, 27, 0);
     x.give(2, 9, 0);
     x.promise(1, 2, 9);
     x.promise(2, 1, 9);
@@ -481,10 +459,25 @@ final class BoundsOfThoughtsTest {
     taken(x, 2, 20, 4, 0, 1);
   }
 
+  /** Of one MERRY, a PROMISE for a weekday of 5 or 6 is KEPT without the DAY; for others it isn't. */
+  private static void bailiffsOfWhoIsUpWithoutTheDay() {
+    for (int day = 0; day < 28; day++) {
+      SoldDays x = Made.people(53, 0);
+      x.promise(0, 1, day);
+      x.promise(1, 0, day);
+      Made.has(x, 0, 0, 27, 0);
+      x.give(0, day, 1);
+      boolean isUpAnyway = day % 7 == 5 || day % 7 == 6;
+      taken(x, 1, isUpAnyway ? 15 : 10, isUpAnyway ? 0 : 2, day);
+      x.give(0, day, 2);
+      taken(x, 1, isUpAnyway ? 15 : 10, 0, day);
+    }
+  }
+
   /** "on how many of the 28 DAYS one is UP, of 28: a fraction in lowest terms (0 is 0 by 1)" */
   private static void oddsFrom0To28() {
-    SoldDays x = people(0);
-    has(x, 0, 0, 27, 0);
+    SoldDays x = Made.people(0);
+    Made.has(x, 0, 0, 27, 0);
     int[] above = {0, 1, 1, 3, 1, 5, 3, 1, 2, 9, 5, 11, 3, 13, 1, 15, 4, 17, 9, 19, 5, 3, 11, 23, 6, 25, 13, 27, 1};
     int[] below = {1, 28, 14, 28, 7, 28, 14, 4, 7, 28, 14, 28, 7, 28, 2, 28, 7, 28, 14, 28, 7, 4, 14, 28, 7, 28, 14, 28, 1};
     for (int up = 0; up <= 28; up++) {
@@ -499,8 +492,8 @@ final class BoundsOfThoughtsTest {
   private static void oddsOfKinds() {
     int[][] rows = {{15, 1, 6, 7}, {15, 0, 0, 1}, {60, 0, 1, 1}, {53, 0, 2, 7}, {50, 0, 0, 1}, {46, 1, 6, 7}, {30, 1, 1, 1}};
     for (int[] row : rows) {
-      SoldDays x = people(row[0]);
-      has(x, 0, 0, 27, row[1]);
+      SoldDays x = Made.people(row[0]);
+      Made.has(x, 0, 0, 27, row[1]);
       Due.due("27: above of " + row[0], x.odds(0, 0), row[2]);
       Due.due("27: below of " + row[0], x.odds(0, 1), row[3]);
     }
@@ -528,13 +521,13 @@ final class BoundsOfThoughtsTest {
     Due.due("28: nobody", x.fits(3), 0);
     x.person(0);
     Due.due("28: one who LIVES 1", x.fits(3), 0);
-    has(x, 0, 0, 27, 0);
+    Made.has(x, 0, 0, 27, 0);
     Due.due("28: one who LIVES 0", x.fits(3), 1);
   }
 
   /** "at most 24 numbers": the first one and the last one count. */
   private static void fitsOf24Numbers() {
-    SoldDays x = people(0, 0);
+    SoldDays x = Made.people(0, 0);
     x.sheet(0, 16, 24);
     for (int i = 0; i < 24; i++) {
       x.put(0, i, 1);
@@ -556,7 +549,7 @@ final class BoundsOfThoughtsTest {
 
   /** "of TODAY's DAY, of the next ones": behind DAY 27 is DAY 0; TODAY beyond 9999, too. */
   private static void fitsOverTheEndOfTheCalendar() {
-    SoldDays x = people(0, 0);
+    SoldDays x = Made.people(0, 0);
     x.give(0, 26, 7);
     x.give(0, 27, 3);
     x.give(0, 0, 5);
@@ -569,8 +562,8 @@ final class BoundsOfThoughtsTest {
     x.put(1, 0, 5);
     x.put(1, 1, 1);
     Due.due("28: DAYS 0 and 1", x.fits(1), 1);
-    SoldDays y = people(0, 0);
-    toTheLastDay(y);
+    SoldDays y = Made.people(0, 0);
+    Made.on(y, 9999);
     y.give(1, 4, 6);
     y.sheet(0, 8, 2);
     y.put(0, 0, 1);
@@ -580,10 +573,10 @@ final class BoundsOfThoughtsTest {
 
   /** The most that somebody LIVES is 19; numbers below 0 are of nobody. */
   private static void fitsOfMostLives() {
-    SoldDays x = people(59, 49);
+    SoldDays x = Made.people(59, 49);
     x.days(5);
-    has(x, 0, 5, 6, 9);
-    has(x, 1, 3, 5, 9);
+    Made.has(x, 0, 5, 6, 9);
+    Made.has(x, 1, 3, 5, 9);
     for (int bits = 8; bits <= 32; bits *= 2) {
       x.sheet(0, bits, 2);
       x.put(0, 0, 19);
@@ -595,7 +588,7 @@ final class BoundsOfThoughtsTest {
       x.put(0, 1, -19);
       Due.due("28: nobody LIVES -19", x.fits(0), 0);
     }
-    SoldDays y = people(49);
+    SoldDays y = Made.people(49);
     y.days(3);
     y.give(0, 3, 9);
     y.sheet(0, 8, 1);
@@ -605,7 +598,7 @@ final class BoundsOfThoughtsTest {
 
   /** ".. as a set": of six, any. */
   private static void fitsOfSix() {
-    SoldDays x = people(0, 0, 0, 0, 0, 0);
+    SoldDays x = Made.people(0, 0, 0, 0, 0, 0);
     x.sheet(0, 8, 1);
     x.put(0, 0, 2);
     for (int set = 0; set < 64; set++) {

@@ -30,11 +30,11 @@ final class RefusalsTest {
   }
 
   private static void beyond(String call, Twins.ActOf act, int least, int most) {
-    Twins.beyond(call, Twins::usual, act, least, most);
+    Twins.beyond(call, Made::usual, act, least, most);
   }
 
   private static void refused(String call, Twins.Act act, long error) {
-    Twins.refused(call, Twins::usual, act, error);
+    Twins.refused(call, Made::usual, act, error);
   }
 
   private static void people() {
@@ -113,7 +113,7 @@ final class RefusalsTest {
   }
 
   private static SoldDays with(Twins.Act act) {
-    SoldDays x = Twins.usual();
+    SoldDays x = Made.usual();
     act.on(x);
     return x;
   }
@@ -268,17 +268,17 @@ final class RefusalsTest {
   }
 
   private static void full() {
-    Twins.refused("2: a seventh", Twins::full, x -> x.person(0), Due.FULL);
-    Twins.refused("12: a ninth PROMISE", Twins::full, x -> x.promise(0, 1, 0), Due.FULL);
-    Twins.refused("14: a byte more", Twins::full, x -> x.feed(49L, 1), Due.FULL);
-    Twins.refused("14: eight bytes more", Twins::full, x -> x.feed(-1L, 8), Due.FULL);
-    Twins.refused("38: one number more", Twins::full, x -> x.tell(0), Due.FULL);
-    Twins.beyond("2: BEYOND ahead of FULL", Twins::full, (x, v) -> x.person(v), 0, 69);
-    Twins.beyond("12: BEYOND ahead of FULL", Twins::full, (x, v) -> x.promise(v, 0, 0), 0, 5);
-    Twins.beyond("12: BEYOND ahead of FULL", Twins::full, (x, v) -> x.promise(0, v, 0), 0, 5);
-    Twins.beyond("12: BEYOND ahead of FULL", Twins::full, (x, v) -> x.promise(0, 1, v), 0, 27);
-    Twins.refused("12: BEYOND ahead of FULL", Twins::full, x -> x.promise(5, 5, 0), Due.BEYOND);
-    Twins.beyond("14: BEYOND ahead of FULL", Twins::full, (x, v) -> x.feed(49L, v), 1, 8);
+    Twins.refused("2: a seventh", Made::full, x -> x.person(0), Due.FULL);
+    Twins.refused("12: a ninth PROMISE", Made::full, x -> x.promise(0, 1, 0), Due.FULL);
+    Twins.refused("14: a byte more", Made::full, x -> x.feed(49L, 1), Due.FULL);
+    Twins.refused("14: eight bytes more", Made::full, x -> x.feed(-1L, 8), Due.FULL);
+    Twins.refused("38: one number more", Made::full, x -> x.tell(0), Due.FULL);
+    Twins.beyond("2: BEYOND ahead of FULL", Made::full, (x, v) -> x.person(v), 0, 69);
+    Twins.beyond("12: BEYOND ahead of FULL", Made::full, (x, v) -> x.promise(v, 0, 0), 0, 5);
+    Twins.beyond("12: BEYOND ahead of FULL", Made::full, (x, v) -> x.promise(0, v, 0), 0, 5);
+    Twins.beyond("12: BEYOND ahead of FULL", Made::full, (x, v) -> x.promise(0, 1, v), 0, 27);
+    Twins.refused("12: BEYOND ahead of FULL", Made::full, x -> x.promise(5, 5, 0), Due.BEYOND);
+    Twins.beyond("14: BEYOND ahead of FULL", Made::full, (x, v) -> x.feed(49L, v), 1, 8);
     Twins.Maker almost = () -> {
       SoldDays x = new SoldDays();
       for (int i = 0; i < 53; i++) {
@@ -290,14 +290,14 @@ final class RefusalsTest {
   }
 
   private static void tooLate() {
-    Twins.Maker atLast = () -> Twins.late(9999);
+    Twins.Maker atLast = () -> Made.late(9999);
     Twins.refused("18: no day more", atLast, x -> x.days(1), Due.STATE);
     Twins.refused("19: no day more", atLast, x -> x.loose(1), Due.STATE);
     Twins.refused("18: BEYOND ahead of STATE", atLast, x -> x.days(61), Due.BEYOND);
     Twins.refused("18: BEYOND ahead of STATE", atLast, x -> x.days(0), Due.BEYOND);
     Twins.refused("19: BEYOND ahead of STATE", atLast, x -> x.loose(41), Due.BEYOND);
     Twins.refused("19: BEYOND ahead of STATE", atLast, x -> x.loose(0), Due.BEYOND);
-    Twins.refused("18: one day too many", () -> Twins.late(9940), x -> x.days(60), Due.STATE);
-    Twins.refused("19: one day too many", () -> Twins.late(9960), x -> x.loose(40), Due.STATE);
+    Twins.refused("18: one day too many", () -> Made.late(9940), x -> x.days(60), Due.STATE);
+    Twins.refused("19: one day too many", () -> Made.late(9960), x -> x.loose(40), Due.STATE);
   }
 }
