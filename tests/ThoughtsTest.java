@@ -234,16 +234,16 @@ final class ThoughtsTest {
   }
 
   private static void odds() {
-    SoldDays x = new SoldDays();
-    x.person(0);
     int[][] fractions = {{0, 1}, {1, 28}, {1, 14}, {3, 28}, {1, 7}, {5, 28}, {3, 14}, {1, 4}, {2, 7}, {9, 28}, {5, 14}, {11, 28}, {3, 7}, {13, 28}, {1, 2}, {15, 28}, {4, 7}, {17, 28}, {9, 14}, {19, 28}, {5, 7}, {3, 4}, {11, 14}, {23, 28}, {6, 7}, {25, 28}, {13, 14}, {27, 28}, {1, 1}};
     for (int up = 0; up <= 28; up++) {
+      SoldDays x = Made.people(0);
       for (int day = 0; day < 28; day++) {
         x.give(0, day, day < up ? 2 : 0);
       }
       Due.due("27: above, of " + up, x.odds(0, 0), fractions[up][0]);
       Due.due("27: below, of " + up, x.odds(0, 1), fractions[up][1]);
     }
+    SoldDays x = Made.people(0);
     Due.due("27: odds(0, 2)", x.odds(0, 2), Due.BEYOND);
     Due.due("27: odds(0, -1)", x.odds(0, -1), Due.BEYOND);
     Due.due("27: odds(1, 0)", x.odds(1, 0), Due.BEYOND);
