@@ -336,16 +336,19 @@ final class BoundsOfSheetsTest {
     Due.due("35: the first is wrong", y.judge(0), 0);
   }
 
+  /** Each place of the first SHEET and of the last one; 24: all are right. */
   private static void judgesUpToTheFirstWrong() {
     for (int wrong = 0; wrong <= 24; wrong++) {
-      SoldDays x = people(2);
-      x.sheet(0, 16, 24);
-      for (int i = 0; i < 24; i++) {
-        x.put(0, i, i == wrong ? 3 : 2);
+      for (int sheet = 0; sheet <= 3; sheet += 3) {
+        SoldDays x = people(2);
+        x.sheet(sheet, 16, 24);
+        for (int i = 0; i < 24; i++) {
+          x.put(sheet, i, i == wrong ? 3 : 2);
+        }
+        Due.due("35: up to " + wrong, x.judge(sheet), wrong);
+        x.put(sheet, wrong, -2);
+        Due.due("35: up to " + wrong, x.judge(sheet), wrong);
       }
-      Due.due("35: up to " + wrong, x.judge(0), wrong);
-      x.put(0, wrong, -2);
-      Due.due("35: up to " + wrong, x.judge(0), wrong);
     }
   }
 

@@ -281,6 +281,8 @@ final class BoundsOfTextsTest {
     gives("1+".repeat(29) + "10", 0, 0, 0, 39);
     gives("d*".repeat(29) + "11", 1, 0, 0, 11);
     gives("!".repeat(5) + "d|(w)" + "|(w)".repeat(12) + "|9", 1, 0, 0, 1);
+    gives("!" + "1+".repeat(29) + "1", 0, 0, 0, 29);
+    gives("!!!" + "d*".repeat(28) + "d", 1, 0, 0, 0);
     gives("1|".repeat(29) + "12", 0, 0, 0, 1);
     gives("1&".repeat(29) + "10", 0, 0, 0, 1);
     gives("1<12+((((" + "1+".repeat(22) + "1))))*2", 0, 0, 0, 1);

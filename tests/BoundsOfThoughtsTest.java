@@ -528,23 +528,23 @@ final class BoundsOfThoughtsTest {
   /** "at most 24 numbers": the first one and the last one count. */
   private static void fitsOf24Numbers() {
     SoldDays x = Made.people(0, 0);
-    x.sheet(0, 16, 24);
+    x.sheet(3, 16, 24);
     for (int i = 0; i < 24; i++) {
-      x.put(0, i, 1);
+      x.put(3, i, 1);
     }
-    Due.due("28: both", x.fits(0), 3);
+    Due.due("28: both", x.fits(3), 3);
     x.give(0, 23, 2);
-    Due.due("28: not of who LIVES 2 of the last", x.fits(0), 2);
+    Due.due("28: not of who LIVES 2 of the last", x.fits(3), 2);
     x.give(1, 0, 2);
-    Due.due("28: not of who LIVES 2 of the first", x.fits(0), 0);
+    Due.due("28: not of who LIVES 2 of the first", x.fits(3), 0);
     x.give(0, 23, 1);
     x.give(0, 24, 9);
-    Due.due("28: what is behind the last doesn't count", x.fits(0), 1);
-    x.put(0, 0, 2);
-    Due.due("28: the other one", x.fits(0), 2);
-    x.sheet(0, 16, 1);
-    x.put(0, 0, 1);
-    Due.due("28: one number", x.fits(0), 1);
+    Due.due("28: what is behind the last doesn't count", x.fits(3), 1);
+    x.put(3, 0, 2);
+    Due.due("28: the other one", x.fits(3), 2);
+    x.sheet(3, 16, 1);
+    x.put(3, 0, 1);
+    Due.due("28: one number", x.fits(3), 1);
   }
 
   /** "of TODAY's DAY, of the next ones": behind DAY 27 is DAY 0; TODAY beyond 9999, too. */
