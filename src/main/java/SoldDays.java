@@ -404,8 +404,7 @@ public final class SoldDays {
     if (!now.people.knows(person) || !isWithin(voice, 0, Kinds.VOICES - 1)) {
       return error(BEYOND);
     }
-    voices.startAs(person, now.people);
-    int sound = voices.own(voice, x, 0);
+    int sound = voices.speak(person, now.people, voice, x);
     return voices.parted ? error(PARTED) : sound;
   }
 
@@ -1344,16 +1343,18 @@ public final class SoldDays {
     private int k = 0;
     private int m = 0;
 
-    void startAs(int person, People people) {
+    /** What a voice of somebody is, if parted doesn't say otherwise then. */
+    int speak(int person, People people, int voice, int x) {
       trace.size = 0;
       parted = false;
       kind = people.kinds[person];
       k = person;
       m = people.numbers[person];
+      return own(voice, x, 0);
     }
 
     /** A voice as the one who speaks has it: yawns(..), not super.yawns(..). */
-    int own(int voice, int x, int depth) {
+    private int own(int voice, int x, int depth) {
       return sound(kind, voice, x, depth);
     }
 
